@@ -1781,6 +1781,7 @@ public final class TermShelf {
         private static final int FACTOR = 1103515245;
         private static final int SUMMAND = 12345;
         private static final int DIVISOR = 65536;
+        private static final int LOW_BITS = 2147483647;
 
         private int last = 0;
 
@@ -1789,7 +1790,7 @@ public final class TermShelf {
         }
 
         private int number() {
-            last = (last * FACTOR + SUMMAND) & Integer.MAX_VALUE;
+            last = (last * FACTOR + SUMMAND) & LOW_BITS;
             return last / DIVISOR;
         }
 
