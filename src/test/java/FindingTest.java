@@ -118,6 +118,8 @@ public final class FindingTest {
 
     /** Nodes between, where a whole term is passed, are not visited. */
     private static void passedTerms() {
+        String deep = Due.repeated("g(", 11) + "a" + Due.repeated(")", 11);
+        found(Due.shelf(SIGNS + "rule p " + deep + ";", deep), 2, row(0), 1, 12);
         TermShelf shelf = Due.shelf(SIGNS + "rule p f(f(a,x),b);rule q f(f(a,g(b)),a);rule r f(g(a),b);", "f(x,b)");
         found(shelf, 1, row(0, 2), 2, 6);
         found(shelf, 2, row(0, 2), 2, 6);
@@ -145,6 +147,9 @@ public final class FindingTest {
         Due.due("no such rule below", shelf.filled(-1, 0, 0), Due.NONE);
         shelf.take(0);
         Due.due("a rule out", shelf.filled(0, 0, 0), Due.NONE);
+        TermShelf whole = Due.shelf(SIGNS + "rule p y;", "g(x)");
+        Due.due("the whole query is filled", whole.filled(0, 1, 0), 3);
+        Due.due("the whole query is filled", whole.filled(0, 1, 1), 100);
     }
 
     private static void met(TermShelf shelf, int rule, int... codes) {
@@ -199,6 +204,10 @@ public final class FindingTest {
         Due.due("specific(-1)", shelf.specific(-1), Due.NONE);
         Due.ask(shelf, "x");
         Due.due("of all instances", shelf.specific(1), 1);
+        TermShelf first = Due.shelf(SIGNS + "rule p a;rule q x;rule r b;", "a");
+        Due.due("the first rule", first.specific(0), 0);
+        Due.ask(first, "y");
+        Due.due("the first rule of two", first.specific(1), 0);
     }
 
     private static void tried() {
@@ -275,6 +284,8 @@ public final class FindingTest {
         Due.due("no constant, no variable", shelf.draw(5), Due.MISSING);
         Due.due("chance without any", shelf.chance(5, 0), Due.MISSING);
         Due.due("no query then", shelf.count(7), 0);
+        TermShelf first = Due.shelf("sign c 0;sign h 3;sign d 0;");
+        drawn(first, 8, 1, 2, 2, 1, 1, 2, 0, 0, 0, 0);
         TermShelf full = Due.shelf("sign h 3;sign c 0;sign f 2;");
         drawn(full, 14, 0, 0, 0, 1, 2, 1, 1, 1, 1, 1, 1, 1);
         TermShelf variable = Due.shelf("sign h 3;var x;");

@@ -285,6 +285,11 @@ public final class ReadingTest {
                 Due.due("rule(" + rule + ", " + what + ")", shelf.rule(rule, what), want[rule][what]);
             }
         }
+        TermShelf variable = Due.shelf("var x;rule p x = x;");
+        int[] ofVariable = {1, 1, 1, 1, 0};
+        for (int what = 0; what < 5; what++) {
+            Due.due("rule(0, " + what + ") of a variable", variable.rule(0, what), ofVariable[what]);
+        }
         shelf.take(3);
         Due.due("rule(3, 3), taken", shelf.rule(3, 3), 0);
         Due.due("rule(3, 0), taken", shelf.rule(3, 0), 2);

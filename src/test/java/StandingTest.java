@@ -8,6 +8,7 @@ public final class StandingTest {
         takeAndPut();
         undo();
         undoAtMost();
+        undoTheLatest();
         images();
         counts();
         branches();
@@ -76,6 +77,24 @@ public final class StandingTest {
         Due.due("the first one stays", shelf.rule(0, 3), 0);
     }
 
+    /** Rules 0 .. 5 are turned one after another, 25 times; the latest 20 are undone. */
+    private static void undoTheLatest() {
+        TermShelf shelf = Due.shelf(TEXT);
+        for (int turn = 0; turn < 25; turn++) {
+            int rule = turn % 6;
+            int answer = shelf.rule(rule, 3) == 1 ? shelf.take(rule) : shelf.put(rule);
+            Due.due("a turn is done", answer >= 0 ? 1 : 0, 1);
+        }
+        for (int turns = 24; turns >= 5; turns--) {
+            Due.due("undo", shelf.undo(), turns - 5);
+            for (int rule = 0; rule < 6; rule++) {
+                int turned = (turns + 5 - rule) / 6;
+                Due.due("rule " + rule + " behind " + turns + " turns", shelf.rule(rule, 3), 1 - turned % 2);
+            }
+        }
+        Due.due("no more than twenty", shelf.undo(), Due.NONE);
+    }
+
     private static void images() {
         TermShelf shelf = Due.shelf(TEXT, "f(a,a)");
         Due.due("no image", shelf.back(), Due.NONE);
@@ -117,6 +136,12 @@ public final class StandingTest {
         for (int rule : new int[] {0, 2, 3, 5}) {
             shelf.take(rule);
         }
+        shelf.put(4);
+        Due.due("the longest one is alone", shelf.count(8), 4);
+        shelf.undo();
+        shelf.put(1);
+        Due.due("the repeating one is alone", shelf.count(9), 1);
+        shelf.undo();
         int[] last = {4, 2, 6, 0, 0, 0, 16, 3, 0, 0, 6};
         for (int what = 0; what < last.length; what++) {
             Due.due("count(" + what + ") at last", shelf.count(what), last[what]);
@@ -181,10 +206,14 @@ public final class StandingTest {
         TermShelf ends = Due.shelf(SIGNS + "rule p f(a,f(a,a));rule q f(a,a);rule r f(a,f(a,b));");
         Due.due("apart(0), an end is a class", ends.apart(0), 4);
         Due.due("apart(1), an end is a class", ends.apart(1), 1);
+        TermShelf alike = Due.shelf(SIGNS + "rule p f(x,x);rule q f(x,y);rule r f(y,x);");
+        Due.due("apart(0), all alike", alike.apart(0), 0);
+        Due.due("apart(1), all alike", alike.apart(1), 3);
         TermShelf first = Due.shelf(SIGNS + "rule p a;rule q b;");
         Due.due("apart(0), the first of several", first.apart(0), 0);
         Due.due("apart(1), the first of several", first.apart(1), 1);
         first.take(0);
+        Due.due("apart(1), one in", first.apart(1), 1);
         first.take(1);
         Due.due("apart(0), none in", first.apart(0), 0);
         Due.due("apart(1), none in", first.apart(1), 0);
