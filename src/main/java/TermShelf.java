@@ -37,7 +37,7 @@ public final class TermShelf {
     private final Term looseAsking = new Term(MOST_PLACES);
     private final Reader reader = new Reader();
     private final Standing standing = new Standing();
-    private final Tree tree = new Tree(book);
+    private final Tree tree = new Tree();
     private final Matcher matcher = new Matcher();
     private final Unifier unifier = new Unifier();
     private final Joiner joiner = new Joiner();
@@ -1250,22 +1250,24 @@ public final class TermShelf {
      */
     private static final class Tree {
         private final int[] rules = new int[MOST_RULES];
+        private final Term[] terms = new Term[MOST_RULES];
         private final int[] sharedAhead = new int[MOST_RULES];
-        private Book book;
+        private final Term noTerm = new Term(0);
         int size = 0;
         int candidates = 0;
         int visited = 0;
 
-        Tree(Book from) {
-            book = from;
+        Tree() {
+            for (int i = 0; i < MOST_RULES; i++) {
+                terms[i] = noTerm;
+            }
         }
 
-        void plant(Book from, Standing standing) {
-            book = from;
+        void plant(Book book, Standing standing) {
             size = 0;
-            for (int rule = 0; rule < from.ruleCount; rule++) {
+            for (int rule = 0; rule < book.ruleCount; rule++) {
                 if (standing.isIn(rule)) {
-                    insert(rule);
+                    insert(rule, book.termOf(rule));
                 }
             }
             for (int i = 0; i < size; i++) {
@@ -1273,17 +1275,18 @@ public final class TermShelf {
             }
         }
 
-        private void insert(int rule) {
+        private void insert(int rule, Term term) {
             if (size < 0 || size >= MOST_RULES) {
                 return;
             }
-            Term term = book.termOf(rule);
             int place = size;
-            while (place > 0 && term.isAheadByPath(termAt(place - 1))) {
+            while (place > 0 && term.isAheadByPath(terms[place - 1])) {
                 rules[place] = rules[place - 1];
+                terms[place] = terms[place - 1];
                 place--;
             }
             rules[place] = rule;
+            terms[place] = term;
             size++;
         }
 
@@ -1292,7 +1295,7 @@ public final class TermShelf {
         }
 
         private Term termAt(int i) {
-            return book.termOf(ruleAt(i));
+            return i >= 0 && i < size ? terms[i] : noTerm;
         }
 
         private boolean bringsNode(int i, int length) {
