@@ -65,23 +65,65 @@ final class Due {
         return shelf;
     }
 
+    /** Each text has a shelf of its own, for none may be used for more than 512 calls. */
     static void faultyText(String text, int fault, int place) {
-        faulty("text", text, told(FAULTY, text), fault, place);
+        TermShelf shelf = new TermShelf();
+        due("text of: " + text, told(shelf, text), NONE);
+        faultIs(shelf, text, fault, place);
+        due("no lines of: " + text, shelf.count(0) + shelf.count(1) + shelf.count(2), 0);
     }
 
     static void faultyQuery(TermShelf shelf, String text, int fault, int place) {
-        int got = ask(shelf, text);
-        due("query of: " + text, got, NONE);
-        due("its fault: " + text, shelf.fault(0), fault);
-        due("its fault's place: " + text, shelf.fault(1), place);
+        due("query of: " + text, ask(shelf, text), NONE);
+        faultIs(shelf, text, fault, place);
     }
 
-    private static final TermShelf FAULTY = new TermShelf();
+    static void goodText(String text, int lines) {
+        TermShelf shelf = new TermShelf();
+        due("text of: " + text, told(shelf, text), lines);
+        faultIs(shelf, text, 0, NONE);
+    }
 
-    private static void faulty(String call, String text, int got, int fault, int place) {
-        due(call + " of: " + text, got, NONE);
-        due("its fault: " + text, FAULTY.fault(0), fault);
-        due("its fault's place: " + text, FAULTY.fault(1), place);
+    static void goodQuery(TermShelf shelf, String text, int places) {
+        due("query of: " + text, ask(shelf, text), places);
+        faultIs(shelf, text, 0, NONE);
+    }
+
+    static void faultIs(TermShelf shelf, String text, int fault, int place) {
+        due("fault of: " + text, shelf.fault(0), fault);
+        due("fault's place of: " + text, shelf.fault(1), place);
+    }
+
+    /** What can be seen of a shelf without changing it, but for its tape. */
+    static String seen(TermShelf shelf) {
+        StringBuilder all = new StringBuilder();
+        for (int what = 0; what <= 10; what++) {
+            all.append(shelf.count(what)).append(' ');
+        }
+        all.append(shelf.fault(0)).append(' ').append(shelf.fault(1)).append(" query");
+        int places = shelf.count(7);
+        for (int place = 0; place < places; place++) {
+            all.append(' ').append(shelf.asked(place));
+        }
+        all.append(" in");
+        int in = shelf.count(3);
+        for (int k = 0; k < in; k++) {
+            all.append(' ').append(shelf.order(k));
+        }
+        all.append(" rules");
+        int rules = shelf.count(2);
+        for (int rule = 0; rule < rules; rule++) {
+            all.append(' ').append(shelf.rule(rule, 0)).append(' ').append(shelf.rule(rule, 1));
+        }
+        return all.toString();
+    }
+
+    static void same(String call, String got, String want) {
+        looked++;
+        if (!got.equals(want)) {
+            wrong++;
+            System.out.println(call + " answered " + got + ", due is " + want);
+        }
     }
 
     static int letters(String name) {
