@@ -3,8 +3,9 @@ import java.util.Random;
 
 /** Runs of calls drawn by a fixed seed; the shelf must answer as the model does. */
 public final class ModelTest {
-    private static final int RUNS = 1500;
-    private static final int CALLS = 300;
+    private static final int RUNS = 1200;
+    /** A last text takes 38 calls at most, so that no run has more than 512. */
+    private static final int CALLS = 474;
 
     private final Random random;
     private final TermShelf shelf = new TermShelf();
