@@ -93,6 +93,12 @@ public final class FindingEdgesTest {
         fit("f(x,x)", "f(y,g(y))", 0, 0, 0, 0);
         fit("f(x,g(x))", "f(y,y)", 0, 0, 0, 0);
         fit("f(x,x)", "f(x,x)", 1, 1, 1, 1);
+        fit("f(x,x)", "f(f(y,a),y)", 0, 0, 0, 0);
+        fit("f(x,x)", "f(f(a,y),y)", 0, 0, 0, 0);
+        fit("f(x,x)", "f(y,h(a,y,a))", 0, 0, 0, 0);
+        fit("f(x,x)", "f(y,h(a,b,y))", 0, 0, 0, 0);
+        fit("f(h(a,b,x),x)", "f(y,y)", 0, 0, 0, 0);
+        fit("f(h(a,b,x),y)", "f(y,y)", 0, 0, 1, 0);
         fit("h(x,g(x),x)", "h(x,y,g(y))", 0, 0, 0, 0);
         fit("h(x,g(x),y)", "h(x,y,g(y))", 0, 0, 1, 0);
         fit("h(x,y,x)", "h(x,g(x),g(y))", 0, 0, 1, 0);

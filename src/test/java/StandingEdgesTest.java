@@ -442,6 +442,7 @@ public final class StandingEdgesTest {
         apart("rule p f(g(a),a);rule q f(g(a),f(a,a));rule r f(g(a),f(a,b));rule s f(g(a),f(a,x));", 5, 1);
         apart("rule p " + deep(11, "a") + ";rule q " + deep(12, "a") + ";", 10, 1);
         apart("rule p h(a,a,a);rule q h(a,a,a);rule r h(a,a,g(a));rule s h(a,a,g(g(a)));", 3, 2);
+        apart("rule p f(a,a);rule q g(a);rule r f(a,b);rule s b;", 0, 2);
         apart("rule p h(a,a,x);rule q h(a,a,y);rule r h(a,a,g(a));rule s h(a,a,g(b));", 3, 2);
     }
 

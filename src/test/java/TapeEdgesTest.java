@@ -24,6 +24,7 @@ public final class TapeEdgesTest {
         takenTextEmptiesTheTape();
         textOfNothing();
         newTextStartsAnew();
+        earlierTextsAreForgotten();
         faultyTextKeepsAll();
         faultyQueryKeepsAll();
         queryTakesThePlaceOfOne();
@@ -337,6 +338,33 @@ public final class TapeEdgesTest {
         Due.due("nothing to undo", shelf.count(10), 0);
         Due.due("nothing is undone", shelf.undo(), Due.NONE);
         Due.due("both are still in", shelf.count(3), 2);
+    }
+
+    /** Nothing of an earlier text, of its faulty ones neither, is left behind the rules of a new one. */
+    private static void earlierTextsAreForgotten() {
+        String many = "sign a 0;sign f 2;var x;var y;rule p f(x,y) = x;rule q f(x,x) = x;rule r x = a;rule s a = a;";
+        TermShelf shelf = Due.shelf(many);
+        for (int turn = 0; turn < 4; turn++) {
+            Due.due("one rule", Due.told(shelf, "var x;rule p x;"), 2);
+            Due.due("above(0)", shelf.above(0), 0);
+            Due.due("shadowed()", shelf.shadowed(), 0);
+            Due.due("tops()", shelf.tops(), 1);
+            Due.due("criticals()", shelf.criticals(), 0);
+            Due.due("its right term", shelf.rule(0, 1), 0);
+            Due.due("its right term's code", shelf.code(0, 0, true), Due.MISSING);
+            Due.due("no second rule", shelf.code(1, 0, false), Due.NONE);
+            Due.due("no rule q", shelf.named(1, Due.letters("q")), Due.NONE);
+            Due.due("no sign a", shelf.named(0, Due.letters("a")), Due.NONE);
+            Due.due("no variable y", shelf.named(0, Due.letters("y")), Due.NONE);
+            Due.due("places in sum", shelf.count(6), 1);
+            Due.due("nodes", shelf.count(4), 1);
+            Due.due("rules in", shelf.count(3), 1);
+            Due.due("a query", Due.ask(shelf, "x"), 1);
+            Due.due("found", shelf.finding(0, 0), 1);
+            Due.due("tried(3, 0, 0)", shelf.tried(3, 0, 0), 1);
+            Due.due("steps(0)", shelf.steps(0), 0);
+            Due.due("many rules", Due.told(shelf, turn % 2 == 0 ? many + "?" : many), turn % 2 == 0 ? Due.NONE : 8);
+        }
     }
 
     /** "NONE with a FAULT, all stays". */
