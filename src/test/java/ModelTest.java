@@ -38,10 +38,30 @@ public final class ModelTest {
                 tell();
             } else if (which < 5) {
                 ask();
+            } else if (which == 5 && calls < CALLS - 60 && upTo(3) == 0) {
+                turnAndUndo();
             } else {
                 look(random.nextInt(38));
             }
         }
+    }
+
+    /** More turns than can be undone, and some of them, or all, undone. */
+    private void turnAndUndo() {
+        int turns = 15 + upTo(15);
+        for (int turn = 0; turn < turns; turn++) {
+            int rule = anyRule();
+            if (upTo(1) == 0) {
+                same("take " + rule, shelf.take(rule), model.take(rule));
+            } else {
+                same("put " + rule, shelf.put(rule), model.put(rule));
+            }
+        }
+        int undone = upTo(25);
+        for (int turn = 0; turn < undone; turn++) {
+            same("undo", shelf.undo(), model.undo());
+        }
+        same("rules in", shelf.count(3), model.count(3));
     }
 
     private int upTo(int most) {
