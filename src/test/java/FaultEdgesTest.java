@@ -389,6 +389,13 @@ public final class FaultEdgesTest {
         Due.faultyText(start + "a=a(a);", 1, n + 3);
         Due.faultyText(start + "a=f(a);", 1, n + 5);
         Due.faultyText(start + "a=g(a,a);", 1, n + 5);
+        Due.faultyText(start + "g(a a);", 1, n + 4);
+        Due.faultyText(start + "g(a x);", 1, n + 4);
+        Due.faultyText(start + "f(a a);", 1, n + 4);
+        Due.faultyText(start + "f(a,a a);", 1, n + 6);
+        Due.faultyText(start + "g(g(a a));", 1, n + 6);
+        Due.faultyText(start + "g(g(a)a);", 1, n + 6);
+        Due.faultyText(start + "a=g(a a);", 1, n + 6);
         Due.goodText(start + "h(a,f(x,g(y)),g(g(a)));", 7);
     }
 

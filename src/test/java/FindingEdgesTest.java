@@ -112,6 +112,11 @@ public final class FindingEdgesTest {
     private static void variants() {
         fit("a", "a", 1, 1, 1, 1);
         fit("x", "x", 1, 1, 1, 1);
+        fit("y", "y", 1, 1, 1, 1);
+        fit("y", "a", 1, 0, 1, 0);
+        fit("a", "y", 0, 1, 1, 0);
+        fit("y", "g(x)", 1, 0, 1, 0);
+        fit("g(x)", "y", 0, 1, 1, 0);
         fit("h(x,y,x)", "h(y,x,y)", 1, 1, 1, 1);
         fit("h(x,y,x)", "h(y,x,x)", 0, 0, 1, 0);
         fit("h(x,y,x)", "h(x,x,x)", 1, 0, 1, 0);
@@ -418,6 +423,11 @@ public final class FindingEdgesTest {
         met("a", "a", 0);
         met("a", "b");
         met("f(x,x)", "f(y,g(y))");
+        met("y", "a", 0);
+        met("a", "y", 0);
+        met(deep(12, "x"), deep(12, "y"), 3, 3, 3, 3, 3, 3, 3, 3, 3, 3, 3, 100);
+        met("h(h(x,y,z),f(w,a),h(x,y,z))", "h(h(x,y,z),f(w,a),h(w,y,x))",
+                4, 4, 100, 101, 100, 2, 100, 0, 4, 100, 101, 100);
     }
 
     /** specific: "-2: none is FOUND; NONE: no such way, no QUERY". */
@@ -455,6 +465,8 @@ public final class FindingEdgesTest {
         Due.due("variants alone are above none but one another", last.specific(0), 0);
         last.take(2);
         Due.due("the lower one", last.specific(0), 1);
+        TermShelf behind = Due.shelf(SIGNS + "rule p g(x);rule q f(x,y);rule r f(y,x);", "f(a,b)");
+        Due.due("the first of variants behind one that is not found", behind.specific(0), 1);
         TermShelf two = Due.shelf(SIGNS + "rule p x;rule q f(x,b);rule r f(a,x);", "f(a,b)");
         Due.due("the first of two", two.specific(0), 1);
         Due.due("of sixteen alike", Due.shelf(sixteen("x"), "a").specific(0), 0);

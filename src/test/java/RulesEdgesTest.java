@@ -396,6 +396,8 @@ public final class RulesEdgesTest {
         join("f(g(a),g(a))", "f(x,x)", 5, 100, 100);
         join("h(g(a),a,a)", "h(g(b),b,c)", 6, 4, 100, 100, 101);
         join("f(g(a),a)", "g(a)", 100);
+        join("h(a,b,b)", "h(b,a,a)", 6, 100, 101, 101);
+        join("h(a,f(b,x),f(x,b))", "h(b,f(x,a),f(a,x))", 6, 100, 5, 101, 102, 5, 102, 101);
         join("h(h(a,a,a),h(a,b,b),f(b,c))", "h(h(b,c,d),h(x,a,c),f(d,a))",
                 6, 6, 100, 101, 102, 6, 103, 104, 105, 5, 106, 107);
         join("h(h(a,a,a),h(a,b,b),f(b,a))", "h(h(b,c,d),h(x,a,c),f(d,b))",
